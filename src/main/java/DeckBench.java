@@ -953,24 +953,24 @@ public final class DeckBench {
 
         /** Whether some symmetry leaves all nodes below fixed where they are and takes one to another. */
         boolean takes(Net net, int fixed, int from, int to) {
-            if (!net.hasNode(from) || !net.hasNode(to)) {
+            if (!net.hasNode(from) || !net.hasNode(to) || net.degreeOf(from) != net.degreeOf(to)) {
                 return false;
             }
             for (int v = 0; v < MOST_NODES; v++) {
                 wanted[v] = v < fixed ? v : NONE;
             }
             wanted[from] = to;
-            return extend(this, net, 0, 0);
+            return extend(this, net, 0);
         }
 
-        private static boolean extend(SymmetrySearch s, Net net, int node, int used) {
+        private static boolean extend(SymmetrySearch s, Net net, int node) {
             if (node >= net.size || node >= MOST_NODES) {
                 return true;
             }
             for (int image = 0; image < net.size; image++) {
-                if ((used >> image & 1) == 0 && s.mayGo(net, node, image)) {
+                if (s.mayGo(net, node, image)) {
                     s.images[node] = image;
-                    if (extend(s, net, node + 1, used | 1 << image)) {
+                    if (extend(s, net, node + 1)) {
                         return true;
                     }
                 }
@@ -978,15 +978,18 @@ public final class DeckBench {
             return false;
         }
 
+        /** Nodes wanted somewhere count though they come later: a wrong way is left early. */
         private boolean mayGo(Net net, int node, int image) {
-            if (wanted[node] != NONE && wanted[node] != image) {
-                return false;
-            }
             if (net.degreeOf(node) != net.degreeOf(image)) {
                 return false;
             }
-            for (int earlier = 0; earlier < node; earlier++) {
-                if (net.areJoined(node, earlier) != net.areJoined(image, images[earlier])) {
+            if (wanted[node] != NONE && wanted[node] != image) {
+                return false;
+            }
+            for (int other = 0; other < net.size; other++) {
+                int known = other < node ? images[other] : wanted[other];
+                boolean counts = other != node && known != NONE;
+                if (counts && (known == image || net.areJoined(node, other) != net.areJoined(image, known))) {
                     return false;
                 }
             }
