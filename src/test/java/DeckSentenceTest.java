@@ -143,6 +143,9 @@ public final class DeckSentenceTest extends Sentences {
         toldIs(withDeck(manyCards(6, EVERY_LINE_OF_6, 0)), 18, 118, 103, 0, 6);
         toldIs(withDeck(manyCards(6, 0, EVERY_LINE_OF_6)), 3, 103, 88, 0, 1);
 
+        // the least form is not always that of the fewest lines: cards of 5, 3, 3, 3, 3, 3 lines
+        toldIs(withDeck(31, 76, 76, 76, 76, 76), 5, 102, 100, 0, 0);
+
         says("4 how many CARDS have one PIECE.");
         DeckBench x = with("deck 0 5 card 01 02 03 card 01 12 23 card 01 23 card 01 02 12 card;");
         due("told(0, 4): cards of 1, 1, 2, 2, 4 pieces", x.told(0, 4), 2);
@@ -313,6 +316,12 @@ public final class DeckSentenceTest extends Sentences {
         due("toldParts(0, 3)", x.toldParts(0, 3), 0);
         due("reason(0)", x.reason(0), 3);
         due("reason(0) of n 4, by 1: never 3", withDeck(0, 0, 7, 7).reason(0), 4);
+        x = with("net 0 3;net 1 3 01;net 2 3 01 02;net 3 3 01 02 12;" + Tape.deck(0, new int[] {0, 1, 3, 7, 11}));
+        due("toldParts(0, 0): 8 by 2", x.toldParts(0, 0), 4);
+        due("toldParts(0, 1): 7 by 2", x.toldParts(0, 1), NONE);
+        due("toldParts(0, 2): 4 by 2", x.toldParts(0, 2), 2);
+        due("toldParts(0, 3): 1 by 2", x.toldParts(0, 3), NONE);
+        due("reason(0): degrees 3 2 1 0 0", x.reason(0), 3);
 
         says("4 no NET has it. 0: it isn't FALSE.");
         for (int i = 0; i < 4; i++) {
@@ -321,6 +330,13 @@ public final class DeckSentenceTest extends Sentences {
         due("reason(0) of all lines", withDeck(manyCards(7, EVERY_LINE_OF_6)).reason(0), 0);
         due("reason(0) of no line", withDeck(manyCards(7, 0)).reason(0), 0);
         due("reason(0) of a tree", dealt(UNEVEN_TREE).reason(0), 0);
+
+        x = with(FALSE_DECKS[2] + "deck 1 5 card card card 01 23 card 02 13 card 03 12;" + "deck 2 5"
+                + " card 01 02 03 12 13 23".repeat(5) + ";");
+        due("reason(0)", x.reason(0), 3);
+        due("reason(1), behind another", x.reason(1), 4);
+        due("reason(2), behind another", x.reason(2), 0);
+        due("reason(0), again", x.reason(0), 3);
 
         says("REASON why a DECK is FALSE, the first");
         due("reason(0): 1 and 3", withDeck(0, 0, 0, 0, 3).reason(0), 1);

@@ -52,6 +52,10 @@ public final class NetSentenceTest extends Sentences {
         due("net(0, 7) of no nodes", withNet(0, 0).net(0, 7), 0);
         due("net(0, 7) of one node", withNet(1, 0).net(0, 7), 0);
         due("net(0, 7) of two nodes", withNet(2, 1).net(0, 7), 0);
+        // nodes of one degree with unlike cards, nodes of one orbit: no twins
+        due("net(0, 7) of an uneven tree", with(UNEVEN_TREE).net(0, 7), 0);
+        due("net(0, 7) of a path of 7", with("net 0 7 01 12 23 34 45 56;").net(0, 7), 0);
+        due("net(0, 7) of a ring and a node", with("net 0 7 01 12 23 34 45 05;").net(0, 7), 0);
         bounds("net(slot, 0)", 0, 5, -2, (b, slot) -> b.net(slot, 0));
         bounds("net(0, what)", 0, 7, -2, (b, what) -> b.net(0, what));
         bounds("net(4, what): no nodes", 0, 7, -2, (b, what) -> b.net(4, what));
@@ -145,6 +149,9 @@ public final class NetSentenceTest extends Sentences {
             due("least(0, 0) of code " + codes[i], x.least(0, 0), 3);
             due("least(0, 1) of code " + codes[i], x.least(0, 1), 3);
         }
+
+        due("least(0, 1) of a path of 3, asked first", withNet(3, 3).least(0, 1), 3);
+        due("least(0, 1) of no line in 5 nodes, asked first", withNet(5, 0).least(0, 1), 3);
 
         says("(each as often)");
         DeckBench x = withNet(4, 1);
@@ -272,6 +279,10 @@ public final class NetSentenceTest extends Sentences {
         classesAre("net 0 4 01 02 03;", 1, 0, 1, 1, 0, 0);
 
         says("Whether it is of a CLASS (0 to 5): 1, else 0. -2.");
+        DeckBench x = with(RING_OF_7 + "net 1 7 01 12 23 34 45 56;net 2 3 01 12;");
+        for (int slot = 0; slot < 4; slot++) {
+            due("is(" + slot + ", 4), one behind another", x.is(slot, 4), slot == 0 ? 1 : 0);
+        }
         bounds("is(slot, 0)", 0, 5, -2, (b, slot) -> b.is(slot, 0));
         bounds("is(0, what)", 0, 5, -2, (b, what) -> b.is(0, what));
         bounds("is(4, what): no nodes", 0, 5, -2, (b, what) -> b.is(4, what));

@@ -238,6 +238,9 @@ public final class TextSentenceTest extends Sentences {
         due("cards with all lines", x.card(0, 0), EVERY_LINE_OF_6);
 
         says("told by their FORMS, the least FORM first (CARD 0, 1 ..)");
+        x = with("deck 0 4 card 02 card card 12 card 01;");
+        due("card(0, 1): told first, of the code 2", x.card(0, 1), 1);
+        due("card(0, 3): of the code 4", x.card(0, 3), 1);
         x = with("deck 0 4 card 02 12 01 card 20 card card 12 02;");
         due("card(0, 0)", x.card(0, 0), 0);
         due("card(0, 1): of the code 2", x.card(0, 1), 1);
@@ -322,6 +325,15 @@ public final class TextSentenceTest extends Sentences {
         faulty("netx 0 1;", 1, 0);
         faulty("ne t 0 1;", 1, 0);
         faulty("aznet 0 1;", 1, 0);
+        String[] nearWords = {"netz", "neta", "bet", "nat", "nex", "ne", "et", "heck", "dock", "deak", "decl", "eck", "dec",
+            "decks", "card"};
+        for (String word : nearWords) {
+            faulty(word + " 0 2;", 1, 0);
+        }
+        String[] nearCards = {"cardz", "carda", "hard", "cord", "cat", "carp", "ard", "car", "cards", "net", "deck"};
+        for (String word : nearCards) {
+            faulty("deck 0 2 card " + word + ";", 1, 14);
+        }
         faulty("net 0 3 01;;", 1, 11);
         faulty("net 0 3 01,12;", 1, 10);
         faulty("net 0 3 0-1;", 2, 8);
